@@ -46,6 +46,18 @@ public final class PromiseTest {
         return x;
     }
 
+    /** The plain model, which tries all, with the same wheel, no PAIL of which has moved. */
+    private static Model modelOf(PailChain x) {
+        Model model = new Model();
+        model.places(x.told(1));
+        for (int k = 0; k < x.told(1); k++) {
+            model.pail(k, 0, x.told(20 + k));
+            model.pail(k, 1, x.told(30 + k));
+            model.door(k, x.told(40 + k));
+        }
+        return model;
+    }
+
     public static void main(String[] args) {
         constants();
         newObject();
@@ -370,30 +382,28 @@ public final class PromiseTest {
         due("of as many", y.fewest(-1), 2);
         PailChain w = wheel(9, 0, 0, 0, 0, 6, 6);
         w.pail(0, 0, 0);
-        due("PAIL 0 is empty and must come back", w.fewest(-1), longest(w));
+        due("PAIL 0 is empty and must come back", w.fewest(-1), modelOf(w).fewest(-1));
+        fourteenAtMost();
         changesAreSeen();
     }
 
-    /** The same by all ROWS on the PAD. */
-    private static int longest(PailChain x) {
-        for (int length = 0; length <= 14; length++) {
-            for (int row = 0; row < 1 << length; row++) {
-                if (servesAll(x, row, length)) {
-                    return length;
-                }
-            }
+    private static void leaks(PailChain x, int... leaks) {
+        for (int k = 0; k < leaks.length; k++) {
+            x.pail(k, 1, leaks[k]);
         }
-        return NONE;
     }
 
-    private static boolean servesAll(PailChain x, int row, int length) {
-        x.wipe();
-        for (int k = length - 1; k >= 0; k--) {
-            x.say((row >> k & 1) == 0 ? '+' : '-');
+    private static void fourteenAtMost() {
+        PailChain x = wheel(9, 0, 4, 0, 6, 3, 0, 4, 0, 6);
+        leaks(x, 2, 1, 1, 1, 2, 1, 0, 1, 0);
+        due("14 PULLS", x.fewest(-1), 14);
+        for (int k = 0; k < 14; k++) {
+            x.say(x.fewest(k));
         }
-        boolean all = x.after(0) == (1 << x.told(1)) - 1;
-        x.wipe();
-        return all;
+        due("the ROW serves all", x.after(0), 511);
+        PailChain y = wheel(9, 0, 6, 6, 6, 4, 0, 1, 6, 6);
+        leaks(y, 2, 0, 0, 2, 2, 1, 0, 2, 1);
+        due("15 are too many", y.fewest(-1), NONE);
     }
 
     /** What was found once is not told any more when something has changed. */
@@ -475,6 +485,12 @@ public final class PromiseTest {
         pull(y, "-+++");
         due("SERVED: nothing to do", y.hung(-1), 0);
         due("the first order", y.hung(0), 0);
+        PailChain most = wheel(6, 0, 5, 4, 5, 3, 4);
+        leaks(most, 1, 0, 1, 0, 0, 0);
+        due("8 PULLS", most.hung(-1), 8);
+        PailChain over = wheel(6, 5, 6, 4, 4, 6, 3);
+        due("9 by FEWEST", over.fewest(-1), 9);
+        due("9 are too many", over.hung(-1), NONE);
         PailChain z = wheel(3, 9, 0, 0);
         z.deep(9);
         due("one PULL serves DOOR 0", z.hung(-1), 1);
@@ -486,7 +502,7 @@ public final class PromiseTest {
         due("the first one", x.race(1, 5, 1), 0);
         due("who begins", x.race(5, 1, 1), 0);
         due("nobody so soon", x.race(3, 1, 1), 2);
-        due("the second one", x.race(3, 1, 4), new ModelRace(x).of(3, 1, 4));
+        due("the second one", x.race(3, 1, 4), modelOf(x).race(3, 1, 4));
         PailChain y = wheel(6, 1, 0, 0, 6);
         due("DOOR 0 at the first PULL", y.race(3, 0, 1), 1);
         due("DOOR 0 itself", y.race(0, 3, 10), 0);
@@ -503,35 +519,19 @@ public final class PromiseTest {
         z.pail(0, 0, 0);
         z.pail(1, 1, 9);
         z.pail(3, 1, 9);
-        due("with .", z.race(1, 3, 10), new ModelRace(z).of(1, 3, 10));
+        due("with .", z.race(1, 3, 10), modelOf(z).race(1, 3, 10));
+        PailChain late = wheel(7, 4, 0, 2, 5, 5, 4, 6);
+        due("by 10 PULLS", late.race(3, 2, 10), 1);
+        due("not by 9", late.race(3, 2, 9), 2);
         PailChain e = wheel(3, 3, 3);
         e.pail(1, 1, 9);
-        due("both at once", e.race(0, 1, 1), new ModelRace(e).of(0, 1, 1));
+        due("both at once", e.race(0, 1, 1), modelOf(e).race(0, 1, 1));
         PailChain b = wheel(3, 3, 3, 0);
         b.pail(1, 0, 6);
         b.pail(0, 0, 6);
         b.pail(2, 0, 6);
         due("both by each PULL: neither", b.race(0, 1, 3), 2);
         due("both by each PULL: neither, turned", b.race(1, 0, 3), 2);
-    }
-
-    /** RACE by trying all, on the plain model with the same wheel. */
-    private static final class ModelRace {
-        private final Model model = new Model();
-
-        ModelRace(PailChain x) {
-            int n = x.told(1);
-            model.places(n);
-            for (int k = 0; k < n; k++) {
-                model.pail(k, 0, x.told(20 + k));
-                model.pail(k, 1, x.told(30 + k));
-                model.door(k, x.told(40 + k));
-            }
-        }
-
-        int of(int door, int other, int m) {
-            return model.race(door, other, m);
-        }
     }
 
     private static void widow() {
@@ -550,8 +550,8 @@ public final class PromiseTest {
         due("p is 0", x.widow(1, 0, 10, 1, 0), 0);
         due("p is 0, lower", x.widow(1, 0, 10, 1, 1), 1);
         PailChain y = wheel(9, 0, 0, 0, 0, 6);
-        due("12 of 9 tenths, upper", y.widow(12, 9, 10, 4, 0), new ModelWidow(y).of(12, 9, 10, 4, 0));
-        due("12 of 9 tenths, lower", y.widow(12, 9, 10, 4, 1), new ModelWidow(y).of(12, 9, 10, 4, 1));
+        due("12 of 9 tenths, upper", y.widow(12, 9, 10, 4, 0), modelOf(y).widow(12, 9, 10, 4, 0));
+        due("12 of 9 tenths, lower", y.widow(12, 9, 10, 4, 1), modelOf(y).widow(12, 9, 10, 4, 1));
         due("m 13", x.widow(13, 1, 2, -1, 0), GONE + OUTSIDE);
         due("m -1", x.widow(-1, 1, 2, -1, 0), GONE + OUTSIDE);
         due("p over q", x.widow(1, 3, 2, -1, 0), GONE + OUTSIDE);
@@ -562,23 +562,6 @@ public final class PromiseTest {
         due("part -1", x.widow(1, 1, 2, -1, -1), GONE + OUTSIDE);
         due("no DOOR", x.widow(99, 9, 2, 3, 7), GONE + UNKNOWN);
         due("no DOOR -2", x.widow(1, 1, 2, -2, 0), GONE + UNKNOWN);
-    }
-
-    /** THE WIDOW by trying all ROWS, on the plain model with the same wheel. */
-    private static final class ModelWidow {
-        private final Model model = new Model();
-
-        ModelWidow(PailChain x) {
-            int n = x.told(1);
-            model.places(n);
-            for (int k = 0; k < n; k++) {
-                model.door(k, x.told(40 + k));
-            }
-        }
-
-        long of(int m, int p, int q, int door, int part) {
-            return model.widow(m, p, q, door, part);
-        }
     }
 
     private static void word() {
@@ -712,6 +695,16 @@ public final class PromiseTest {
         due("no first", x.came(3, 0), NONE);
         x.door(1, 0);
         due("now it is", x.came(3, -1) > 0 ? 1 : 0, 1);
+        PailChain late = wheel(9, 0, 0, 0, 0, 6);
+        late.pail(0, 0, 0);
+        Model all = modelOf(late);
+        late.seen(10, 4, true);
+        all.seen(10, 4, true);
+        due("behind 10", late.came(10, -1), all.came(10, -1));
+        due("behind 10, m 9", late.came(9, -1), 19683);
+        late.forget();
+        late.seen(10, 4, false);
+        due("not behind 10", late.came(10, -1), 59049 - all.came(10, -1));
         PailChain y = wheel(3, 0, 3, 0);
         y.seen(2, 1, false);
         due("not SERVED all the while: -. .- ..", y.came(2, -1), 3);
