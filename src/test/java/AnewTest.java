@@ -83,6 +83,7 @@ public final class AnewTest {
             for (int k = 0; k < changes; k++) {
                 due("door(" + k + ", 2)", x.door(k, 2), model.door(k, 2));
             }
+            due("came(0, -1)", x.came(0, -1), model.came(0, -1));
             ask();
         }
     }

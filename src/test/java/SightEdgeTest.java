@@ -154,6 +154,7 @@ public final class SightEdgeTest {
     private static void rowsOfM() {
         CHECK.of("5", "ROWS of m signs (0 to 10; +, -, .)");
         CHECK.of("Promise 22", "OUTSIDE: m.");
+        due("came(0, -1) of a new object", new PailChain().came(0, -1), 1);
         PailChain x = Check.wheel(4, 1, 2, 3, 4);
         for (int m = 0; m <= 10; m++) {
             due("came(" + m + ", -1)", x.came(m, -1), threes(m));
