@@ -1,9 +1,7 @@
 import java.math.BigInteger;
 import java.util.ArrayList;
-import java.util.HashMap;
 import java.util.HashSet;
 import java.util.List;
-import java.util.Map;
 import java.util.Set;
 
 /** The document once more, in its slowest and plainest form: all rows are tried, nothing is packed. */
@@ -433,7 +431,7 @@ final class Model {
         }
     }
 
-    /** Texts of up to 14 signs by trying all of them; longer ones by what one row is ahead by. */
+    /** Texts of up to 14 signs by trying all of them; longer ones by two rows that go on sign by sign. */
     int doubt() {
         List<Set<String>> byLength = new ArrayList<>();
         byLength.add(Set.of(""));
@@ -450,41 +448,42 @@ final class Model {
             }
             byLength.add(texts);
         }
-        return doubtByTails();
+        return doubtSignBySign();
     }
 
-    int doubtByTails() {
-        Map<String, Integer> least = new HashMap<>();
-        for (String a : words) {
-            for (String b : words) {
-                if (!a.equals(b) && b.startsWith(a)) {
-                    least.merge(b.substring(a.length()), b.length(), Math::min);
+    /** What is left of the WORD that each of two rows stands in, and whether the rows are unlike so far. */
+    record Pair(String one, String other, boolean unlike) { }
+
+    int doubtSignBySign() {
+        Set<Pair> reached = new HashSet<>();
+        Set<Pair> now = Set.of(new Pair("", "", false));
+        for (int signs = 0; !now.isEmpty(); signs++) {
+            if (now.contains(new Pair("", "", true))) {
+                return signs;
+            }
+            Set<Pair> next = new HashSet<>();
+            for (Pair pair : now) {
+                oneSignOn(pair, next);
+            }
+            next.removeAll(reached);
+            reached.addAll(next);
+            now = next;
+        }
+        return NONE;
+    }
+
+    /** A row whose WORD is at its end takes any WORD; both rows must have the same sign next. */
+    private void oneSignOn(Pair pair, Set<Pair> next) {
+        boolean bothBegin = pair.one().isEmpty() && pair.other().isEmpty();
+        for (String a : pair.one().isEmpty() ? words : List.of(pair.one())) {
+            for (String b : pair.other().isEmpty() ? words : List.of(pair.other())) {
+                boolean oneBegins = pair.one().isEmpty() != pair.other().isEmpty();
+                boolean unlike = pair.unlike() || oneBegins || bothBegin && !a.equals(b);
+                if (a.charAt(0) == b.charAt(0)) {
+                    next.add(new Pair(a.substring(1), b.substring(1), unlike));
                 }
             }
         }
-        for (boolean more = true; more;) {
-            more = false;
-            for (Map.Entry<String, Integer> e : new HashMap<>(least).entrySet()) {
-                for (String w : words) {
-                    String tail = e.getKey();
-                    String next;
-                    int cost = e.getValue();
-                    if (tail.startsWith(w)) {
-                        next = tail.substring(w.length());
-                    } else if (w.startsWith(tail)) {
-                        next = w.substring(tail.length());
-                        cost += next.length();
-                    } else {
-                        continue;
-                    }
-                    if (!tail.isEmpty() && cost < least.getOrDefault(next, Integer.MAX_VALUE)) {
-                        least.put(next, cost);
-                        more = true;
-                    }
-                }
-            }
-        }
-        return least.getOrDefault("", NONE);
     }
 
     int seen(int behind, int door, boolean served) {

@@ -3,7 +3,11 @@ import java.util.Random;
 /** Many runs by draws, each call asked of the program and of the plain model. */
 public final class ModelTest {
     private static final int RUNS = 900;
-    private static final int CALLS = 150;
+    private static final int STEPS = 150;
+    /** What an object answers beyond these calls is free: nothing is asked of it then. */
+    private static final int MOST_CALLS = 512;
+    private static final int MOST_CALLS_OF_A_STEP = 21;
+    private static final int CALLS_AT_THE_END = 52;
     private static final int WORD_RUNS = 3000;
 
     private final Random draw;
@@ -24,6 +28,10 @@ public final class ModelTest {
             ModelTest test = new ModelTest(7919L * run + 17);
             test.go(run);
             asked += test.asked;
+            if (test.asked > MOST_CALLS) {
+                System.out.println("ModelTest: run " + run + " asked too often: " + test.asked);
+                wrong++;
+            }
             if (!test.isRight) {
                 wrong++;
             }
@@ -62,8 +70,9 @@ public final class ModelTest {
     private void go(int run) {
         // Small wheels in most runs: all orders and rows of a large one take the model long.
         model(run % 4 == 0 ? 3 + draw.nextInt(7) : 3 + draw.nextInt(3));
-        for (int k = 0; k < CALLS && isRight; k++) {
-            call(run);
+        int last = MOST_CALLS - CALLS_AT_THE_END - MOST_CALLS_OF_A_STEP;
+        for (int k = 0; k < STEPS && isRight && asked <= last; k++) {
+            step(run);
         }
         for (int what = -1; what < 51 && isRight; what++) {
             due("told(" + what + ")", x.told(what), model.told(what));
@@ -111,7 +120,7 @@ public final class ModelTest {
         }
     }
 
-    private void call(int run) {
+    private void step(int run) {
         switch (draw.nextInt(32)) {
             case 0: if (draw.nextInt(8) == 0) { model(3 + draw.nextInt(run % 4 == 0 ? 7 : 3)); } break;
             case 1: case 2: pail(); break;
